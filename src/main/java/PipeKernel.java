@@ -1,3 +1,4 @@
+/** A small kernel: processes on a stack machine, pipes between them, and a console. */
 public final class PipeKernel {
     public static final int NONE = -1;
     public static final int READY = 1, READS = 2, WRITES = 3, WAITS = 4, SLEEPS = 5, ENDED = 6;
@@ -14,6 +15,7 @@ public final class PipeKernel {
     private static final int MOST_STEPS = 40;
     private static final int MOST_INPUT = 100;
     private static final int KEPT_OUTPUT = 500;
+    private static final int LAST_TIME = 2147483647;
 
     // What a descriptor is, in the numbers of descriptor(): a pipe's number is added to the last two.
     private static final int CLOSED = 0, IN = 1, OUT = 2, READING = 10, WRITING = 20;
@@ -495,7 +497,7 @@ public final class PipeKernel {
         if (steps > 0) {
             leaveQueue(p);
             p.state = SLEEPS;
-            p.wakeTime = steps > Integer.MAX_VALUE - now ? Integer.MAX_VALUE : now + steps;
+            p.wakeTime = steps > LAST_TIME - now ? LAST_TIME : now + steps;
         }
     }
 

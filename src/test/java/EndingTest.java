@@ -24,6 +24,7 @@ public final class EndingTest {
         processZeroIsItsOwnParent();
         endedProcessZeroTakesNone();
         descriptorsCloseFromZeroOn();
+        lastProcess();
         Check.done();
     }
 
@@ -358,5 +359,23 @@ public final class EndingTest {
         Check.same("descriptor 3", k.descriptor(0, 3), 20);
         k.run(1);
         Check.queue("by the descriptors", k, 2, 1);
+    }
+
+    /** Processes 1 .. 15 read; process 15 is the last one that does, and can be killed and taken as any other. */
+    private static void lastProcess() {
+        PipeKernel k = Code.booted(100, 1,
+            Code.FORK, Code.TWICE, Code.jumpIfZero(20), Code.push(15), Code.SAME, Code.jumpIfZero(0), Code.YIELD,
+            Code.push(15), Code.KILL, Code.WAIT, Code.jump(10), 0, 0, 0, 0, 0, 0, 0, 0, 0,
+            Code.READ);
+        runTo(k, 0, 8);
+        for (int p = 1; p < 16; p++) {
+            Check.same("process " + p + " waits", k.state(p), PipeKernel.READS);
+        }
+        k.run(1);
+        Check.same("KILL of 15", k.about(15, 3), -9);
+        k.run(1);
+        Check.stack("WAIT for 15", k, 0, 0, -9, 15);
+        k.shut();
+        Check.queue("the others wake in turn", k, 0, 1, 2, 3, 4, 5, 6, 7, 8, 9, 10, 11, 12, 13, 14);
     }
 }

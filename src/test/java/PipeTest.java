@@ -23,6 +23,8 @@ public final class PipeTest {
         lastReaderWakesAll();
         ownEndsCount();
         killedWhileItWaits();
+        oneEndIsEnough();
+        lastDescriptorAndPipe();
         Check.done();
     }
 
@@ -337,6 +339,40 @@ public final class PipeTest {
         Check.same("-2 is pushed", k.stack(2, 0), -2);
         runTo(k, 3, 46);
         Check.same("-2 is pushed", k.stack(3, 0), -2);
+    }
+
+    private static void oneEndIsEnough() {
+        PipeKernel k = Code.booted(1, 1, Code.PIPE, Code.push(2), Code.CLOSE, Code.PIPE, Code.push(4), Code.CLOSE,
+            Code.push(2), Code.CLOSE, Code.PIPE, Code.jump(9));
+        k.run(4);
+        Check.same("pipe 0 has its writing end", k.descriptor(0, 2), 11);
+        Check.same("pipe 0 has its writing end", k.descriptor(0, 4), 21);
+        k.run(5);
+        Check.same("pipe 1 is gone and is the least", k.descriptor(0, 2), 11);
+        PipeKernel reads = Code.booted(1, 1, Code.PIPE, Code.push(3), Code.CLOSE, Code.PIPE, Code.jump(4));
+        reads.run(4);
+        Check.same("pipe 0 has its reading end", reads.descriptor(0, 3), 11);
+    }
+
+    /** Process 1 holds pipes 0 .. 2, process 2 has 3 .. 5, process 0 makes 6 and 7; a word goes through 7. */
+    private static void lastDescriptorAndPipe() {
+        PipeKernel k = Code.booted(100, 2,
+            Code.FORK, Code.jumpIfZero(30), Code.YIELD, Code.FORK, Code.jumpIfZero(30), Code.YIELD,
+            Code.push(0), Code.DUP, Code.push(0), Code.DUP, Code.PIPE, Code.PIPE,
+            Code.push(77), Code.push(7), Code.WRITE, Code.push(6), Code.READ, Code.FORK, Code.jumpIfZero(35),
+            Code.push(5), Code.push(7), Code.WRITE, Code.TWICE, Code.push(7), Code.WRITE, Code.TWICE, Code.push(7), Code.WRITE,
+            0, 0, Code.PIPE, Code.PIPE, Code.PIPE, Code.push(20), Code.jump(36), Code.push(90), Code.push(50), Code.MUL,
+            Code.SLEEP);
+        Code.steps(k, 80);
+        Check.same("descriptor 6", k.descriptor(0, 6), 17);
+        Check.same("descriptor 7", k.descriptor(0, 7), 27);
+        Check.same("process 0 waits", k.state(0), PipeKernel.WRITES);
+        Check.same("one waits to write", k.pipe(7, 4), 1);
+        Check.same("words", k.pipe(7, 0), 2);
+        Check.same("the child has them too", k.descriptor(3, 6), 17);
+        Check.same("the child has them too", k.descriptor(3, 7), 27);
+        Check.same("reading ends", k.pipe(7, 1), 2);
+        Check.same("writing ends", k.pipe(7, 2), 2);
     }
 
     private static void ownEndsCount() {
