@@ -521,6 +521,7 @@ public final class PipeKernel {
         }
     }
 
+    // A later process 0 can be one of the children, and is its own child then: the document makes no exception.
     private void handOverChildren(Proc p) {
         boolean adopted = p.number != 0 && procs[0].state != ABSENT && procs[0].state != ENDED;
         for (int i = 0; i < PROCESSES; i++) {
