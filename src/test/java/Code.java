@@ -59,4 +59,26 @@ final class Code {
         }
         return done;
     }
+
+    /** Steps till this holds: the process is the first one, and at that place. */
+    static void runTo(PipeKernel k, int process, int place) {
+        for (int i = 0; i < 400 && !(k.queue(0) == process && k.about(process, 0) == place); i++) {
+            k.run(1);
+        }
+        Check.same("process " + process + " comes to " + place, k.state(process) == 0 ? -99 : k.about(process, 0), place);
+    }
+
+    /** A program of 128 words or less: each piece begins at the place that stands before it. */
+    static int[] pieces(Object... placesAndPieces) {
+        int[] program = new int[128];
+        for (int i = 0; i < placesAndPieces.length; i += 2) {
+            int[] piece = (int[]) placesAndPieces[i + 1];
+            System.arraycopy(piece, 0, program, (Integer) placesAndPieces[i], piece.length);
+        }
+        return program;
+    }
+
+    static int[] code(int... words) {
+        return words;
+    }
 }

@@ -28,14 +28,6 @@ public final class EndingTest {
         Check.done();
     }
 
-    /** Steps till this holds: the process is the first one, and at that place. */
-    private static void runTo(PipeKernel k, int process, int place) {
-        for (int i = 0; i < 400 && !(k.queue(0) == process && k.about(process, 0) == place); i++) {
-            k.run(1);
-        }
-        Check.same("process " + process + " comes to " + place, k.state(process) == 0 ? -99 : k.about(process, 0), place);
-    }
-
     private static void fork() {
         PipeKernel k = Code.booted(9, 1, Code.push(7), Code.FORK, Code.jump(2));
         k.run(2);
@@ -68,7 +60,7 @@ public final class EndingTest {
         PipeKernel k = Code.booted(100, 1, Code.FORK, Code.jumpIfZero(20), Code.FORK, Code.jumpIfZero(20),
             Code.FORK, Code.jumpIfZero(20), Code.push(2), Code.KILL, Code.DROP, Code.WAIT, Code.FORK, Code.jumpIfZero(20),
             Code.jump(12), 0, 0, 0, 0, 0, 0, 0, Code.push(0), Code.READ);
-        runTo(k, 0, 10);
+        Code.runTo(k, 0, 10);
         Check.stack("KILL and WAIT", k, 0, -9, 2);
         Check.same("2 is gone", k.state(2), 0);
         Check.noState("2 is gone", () -> k.about(2, 0));
@@ -81,7 +73,7 @@ public final class EndingTest {
 
     private static void noNumberIsFree() {
         PipeKernel k = Code.booted(100, 1, Code.FORK, Code.jumpIfZero(4), Code.jump(0), 0, Code.push(0), Code.READ);
-        runTo(k, 0, 0);
+        Code.runTo(k, 0, 0);
         for (int i = 0; i < 15; i++) {
             k.run(3);
         }
@@ -121,7 +113,7 @@ public final class EndingTest {
             Code.WAIT, Code.push(42), Code.EXIT);
         k.run(10);
         Check.same("ENDED", k.state(1), PipeKernel.ENDED);
-        runTo(k, 0, 6);
+        Code.runTo(k, 0, 6);
         Check.stack("CODE and number", k, 0, 42, 1);
         Check.same("gone", k.state(1), 0);
         Check.noIndex("gone", () -> k.memory(1, 0));
@@ -139,7 +131,7 @@ public final class EndingTest {
         }
         Check.same("2 is ENDED", k.state(2), PipeKernel.ENDED);
         Check.same("1 is not", k.state(1), PipeKernel.SLEEPS);
-        runTo(k, 0, 9);
+        Code.runTo(k, 0, 9);
         Check.stack("1, then 2", k, 0, 101, 1, 102, 2);
     }
 
@@ -174,7 +166,7 @@ public final class EndingTest {
         Check.queue("off the queue", k, 0);
         PipeKernel sleeper = Code.booted(100, 1, Code.FORK, Code.jumpIfZero(6), Code.YIELD, Code.push(1), Code.KILL,
             Code.jump(5), Code.push(10), Code.SLEEP);
-        runTo(sleeper, 0, 4);
+        Code.runTo(sleeper, 0, 4);
         Check.same("SLEEPS", sleeper.state(1), PipeKernel.SLEEPS);
         sleeper.run(1);
         Check.same("a sleeper too", sleeper.about(1, 3), -9);
@@ -210,7 +202,7 @@ public final class EndingTest {
 
     private static void killsTheParent() {
         PipeKernel k = Code.booted(1, 1, Code.FORK, Code.jumpIfZero(3), Code.WAIT, Code.push(0), Code.KILL, Code.jump(5));
-        runTo(k, 1, 5);
+        Code.runTo(k, 1, 5);
         Check.stack("0 is pushed", k, 1, 0);
         Check.same("it is gone", k.state(0), 0);
         Check.same("no parent", k.about(1, 2), PipeKernel.NONE);
@@ -228,7 +220,7 @@ public final class EndingTest {
     private static void childrenGoToProcessZero() {
         PipeKernel k = Code.booted(100, 1, Code.FORK, Code.jumpIfZero(5), Code.WAIT, Code.WAIT, Code.jump(4),
             Code.FORK, Code.jumpIfZero(9), Code.push(11), Code.EXIT, Code.push(0), Code.READ, Code.push(22), Code.EXIT);
-        runTo(k, 1, 8);
+        Code.runTo(k, 1, 8);
         Check.same("before", k.about(2, 2), 1);
         k.run(1);
         Check.same("its parent is process 0", k.about(2, 2), 0);
@@ -236,7 +228,7 @@ public final class EndingTest {
         Code.steps(k, 40);
         Check.same("it waits for the other child", k.state(0), PipeKernel.WAITS);
         k.feed(1);
-        runTo(k, 0, 4);
+        Code.runTo(k, 0, 4);
         Check.stack("both", k, 0, 11, 1, 22, 2);
     }
 
@@ -252,7 +244,7 @@ public final class EndingTest {
 
     private static void endedChildrenGoToProcessZero() {
         PipeKernel k = Code.booted(100, 1, THREE_DEEP);
-        runTo(k, 2, 13);
+        Code.runTo(k, 2, 13);
         Check.same("3 is ENDED", k.state(3), PipeKernel.ENDED);
         Check.same("process 0 waits", k.state(0), PipeKernel.WAITS);
         Check.same("process 1 reads", k.state(1), PipeKernel.READS);
@@ -270,7 +262,7 @@ public final class EndingTest {
         program[6] = Code.NOP;
         program[7] = Code.WAIT;
         PipeKernel k = Code.booted(100, 1, program);
-        runTo(k, 2, 13);
+        Code.runTo(k, 2, 13);
         Check.same("process 0 waits", k.state(0), PipeKernel.WAITS);
         Check.same("process 1 waits", k.state(1), PipeKernel.WAITS);
         k.run(1);
@@ -290,7 +282,7 @@ public final class EndingTest {
     private static void endedChildrenOfProcessZero() {
         PipeKernel k = Code.booted(100, 1, Code.FORK, Code.jumpIfZero(5), Code.YIELD, Code.push(1), Code.EXIT,
             Code.push(1), Code.EXIT);
-        runTo(k, 0, 4);
+        Code.runTo(k, 0, 4);
         Check.same("1 is ENDED", k.state(1), PipeKernel.ENDED);
         k.run(1);
         Check.same("0 is gone", k.state(0), 0);
@@ -317,7 +309,7 @@ public final class EndingTest {
     private static void processZeroIsItsOwnParent() {
         PipeKernel k = Code.booted(100, 1, Code.FORK, Code.jumpIfZero(4), Code.push(1), Code.EXIT,
             Code.FORK, Code.NUMBER, Code.jumpIfZero(9), Code.push(1), Code.EXIT, Code.YIELD, Code.WAIT);
-        runTo(k, 0, 9);
+        Code.runTo(k, 0, 9);
         Check.same("its parent is gone", k.state(1), 0);
         Check.same("it is its own", k.about(0, 2), 0);
         Code.steps(k, 40);
@@ -352,7 +344,7 @@ public final class EndingTest {
             Code.push(1), Code.EXIT, 0, 0, 0, 0, 0,
             Code.push(0), Code.CLOSE, Code.push(3), Code.CLOSE, Code.push(2), Code.READ, 0, 0, 0, 0,
             Code.push(0), Code.CLOSE, Code.push(3), Code.CLOSE, Code.push(4), Code.READ);
-        runTo(k, 0, 14);
+        Code.runTo(k, 0, 14);
         Check.same("1 waits for pipe 0", k.pipe(0, 3), 1);
         Check.same("2 waits for pipe 1", k.pipe(1, 3), 1);
         Check.same("descriptor 0", k.descriptor(0, 0), 21);
@@ -367,7 +359,7 @@ public final class EndingTest {
             Code.FORK, Code.TWICE, Code.jumpIfZero(20), Code.push(15), Code.SAME, Code.jumpIfZero(0), Code.YIELD,
             Code.push(15), Code.KILL, Code.WAIT, Code.jump(10), 0, 0, 0, 0, 0, 0, 0, 0, 0,
             Code.READ);
-        runTo(k, 0, 8);
+        Code.runTo(k, 0, 8);
         for (int p = 1; p < 16; p++) {
             Check.same("process " + p + " waits", k.state(p), PipeKernel.READS);
         }

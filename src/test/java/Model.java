@@ -100,6 +100,7 @@ final class Model {
 
     boolean feed(int word) {
         if (shut || in.size() == 100) {
+            saw(shut ? "a shut IN" : "a full IN");
             return false;
         }
         in.add(word);
@@ -346,6 +347,9 @@ final class Model {
         if (e != null && e.value == 2) {
             put(p, s, 1);
             printed.add(x);
+            if (printed.size() > 500) {
+                saw("more than 500 words went out");
+            }
         } else if (e == null || !e.writes()) {
             put(p, s, -1);
         } else if (ends(e.pipe, true) == 0) {

@@ -6,6 +6,10 @@ import java.util.TreeMap;
 public final class ModelTest {
     private static final int RUNS = 4000;
     private static final int CALLS = 80;
+    private static final int LONG_RUNS = 60;
+    private static final int LONG_CALLS = 400;
+    /** The flavour of programs that mostly write to the console. */
+    private static final int TALKS = 6;
 
     private final TreeMap<String, Integer> seen = new TreeMap<>();
     private long chance = 20261115L;
@@ -14,14 +18,18 @@ public final class ModelTest {
         ModelTest test = new ModelTest();
         boolean same = true;
         for (int run = 0; run < RUNS && same; run++) {
-            same = test.oneRun(run);
+            same = test.oneRun(run, CALLS, test.below(6));
+        }
+        for (int run = 0; run < LONG_RUNS && same; run++) {
+            same = test.oneRun(RUNS + run, LONG_CALLS, run % 2 == 0 ? TALKS : test.below(6));
         }
         Check.isTrue("all runs are the same", same);
         String[] wanted = {"FAULT 1", "FAULT 2", "FAULT 3", "FAULT 4", "FAULT 5", "FAULT 6", "a child goes to 0",
             "a child is taken", "a child without a parent", "all of several woke", "an idle step", "its own parent",
             "no descriptors are free", "no number is free", "no pipe is free", "no reading end", "no word will come",
             "process 0 anew", "process 0 has got one that ENDED", "state 2", "state 3", "state 4", "state 5",
-            "KILL in state 1", "KILL in state 2", "KILL in state 3", "KILL in state 4", "KILL in state 5"};
+            "KILL in state 1", "KILL in state 2", "KILL in state 3", "KILL in state 4", "KILL in state 5", "a full IN",
+            "a shut IN", "more than 500 words went out", "a refused call"};
         for (String what : wanted) {
             Check.isTrue("the runs have shown: " + what, test.seen.containsKey(what));
         }
@@ -36,10 +44,10 @@ public final class ModelTest {
         return (int) ((chance >>> 33) % bound);
     }
 
-    private boolean oneRun(int run) {
+    private boolean oneRun(int run, int calls, int flavour) {
         int quantum = below(4) == 0 ? below(130) - 10 : 1 + below(6);
         int capacity = below(4) == 0 ? below(24) - 4 : 1 + below(3);
-        int[] memory = program();
+        int[] memory = program(flavour);
         PipeKernel k = new PipeKernel(quantum, capacity);
         Model m = new Model(quantum, capacity);
         for (int i = 0; i < 128; i++) {
@@ -48,7 +56,7 @@ public final class ModelTest {
         k.boot();
         m.boot(memory);
         String told = "";
-        for (int call = 0; call < CALLS && told.isEmpty(); call++) {
+        for (int call = 0; call < calls && told.isEmpty(); call++) {
             told = oneCall(k, m);
             if (told.isEmpty()) {
                 told = difference(k, m);
@@ -64,15 +72,14 @@ public final class ModelTest {
     private String oneCall(PipeKernel k, Model m) {
         int choice = below(20);
         if (choice < 2) {
-            int word = below(200) - 100;
-            int got = -1;
-            try {
-                got = k.feed(word);
-            } catch (IllegalStateException e) {
-                got = -1;
+            String told = "";
+            for (int times = below(20) == 0 ? 60 : 1; times > 0 && told.isEmpty(); times--) {
+                told = feed(k, m);
             }
-            int due = m.feed(word) ? m.in.size() : -1;
-            return got == due ? "" : "feed answered " + got + ", due is " + due;
+            return told;
+        }
+        if (choice == 3) {
+            return refused(k) ? "" : "a call was not refused";
         }
         if (choice == 2 && below(6) == 0) {
             return k.shut() == m.shut() ? "" : "shut is not as due";
@@ -81,6 +88,41 @@ public final class ModelTest {
         int got = k.run(n);
         int due = m.run(n);
         return got == due ? "" : "run(" + n + ") answered " + got + ", due is " + due;
+    }
+
+    private String feed(PipeKernel k, Model m) {
+        int word = below(200) - 100;
+        int got = -1;
+        try {
+            got = k.feed(word);
+        } catch (IllegalStateException e) {
+            got = -1;
+        }
+        int due = m.feed(word) ? m.in.size() : -1;
+        return got == due ? "" : "feed answered " + got + ", due is " + due;
+    }
+
+    /** A call that must throw, and change nothing: what is seen behind it is compared as behind any other call. */
+    private boolean refused(PipeKernel k) {
+        seen.merge("a refused call", 1, Integer::sum);
+        int beyond = below(2) == 0 ? -1 - below(300) : 500 + below(300);
+        try {
+            switch (below(10)) {
+                case 0 -> k.load(below(2) == 0 ? beyond : below(128), 5);
+                case 1 -> k.boot();
+                case 2 -> k.run(beyond);
+                case 3 -> k.state(beyond);
+                case 4 -> k.about(below(16), beyond);
+                case 5 -> k.stack(below(16), beyond);
+                case 6 -> k.memory(beyond, below(128));
+                case 7 -> k.descriptor(below(16), beyond);
+                case 8 -> k.pipe(below(8), beyond);
+                default -> k.out(beyond);
+            }
+            return false;
+        } catch (IndexOutOfBoundsException | IllegalArgumentException | IllegalStateException e) {
+            return true;
+        }
     }
 
     private static String difference(PipeKernel k, Model m) {
@@ -139,9 +181,8 @@ public final class ModelTest {
     }
 
     /** Pieces that mostly make sense, one behind the other, so that processes live for a while. */
-    private int[] program() {
+    private int[] program(int flavour) {
         List<Integer> code = new ArrayList<>();
-        int flavour = below(6);
         int length = 20 + below(100);
         while (code.size() < length) {
             piece(code, flavour);
@@ -157,6 +198,10 @@ public final class ModelTest {
     }
 
     private void piece(List<Integer> code, int flavour) {
+        if (flavour == TALKS && below(8) != 0) {
+            add(code, Code.push(below(1000)), Code.push(1), Code.WRITE, Code.DROP);
+            return;
+        }
         int choice = below(flavour == 0 ? 24 : 20);
         switch (choice) {
             case 0, 1 -> add(code, Code.FORK, Code.jumpIfZero(below(128)));
@@ -167,7 +212,7 @@ public final class ModelTest {
             case 8, 9, 10 -> add(code, Code.push(below(100)), Code.push(below(9)), Code.WRITE, Code.DROP);
             case 11 -> add(code, Code.push(below(9) - (below(9) == 0 ? 1 : 0)), Code.CLOSE, Code.DROP);
             case 12 -> add(code, Code.push(below(9)), Code.DUP, Code.DROP);
-            case 13 -> add(code, Code.push(below(12) - 2), Code.SLEEP, Code.DROP);
+            case 13 -> add(code, Code.push(below(flavour == 1 ? 60 : 12) - 2), Code.SLEEP, Code.DROP);
             case 14 -> add(code, Code.WAIT, Code.DROP, Code.DROP);
             case 15 -> end(code, flavour);
             case 16 -> add(code, below(3) == 0 ? Code.YIELD : Code.jump(below(128)));

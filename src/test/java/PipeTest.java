@@ -258,17 +258,10 @@ public final class PipeTest {
         return k;
     }
 
-    private static void runTo(PipeKernel k, int process, int place) {
-        for (int i = 0; i < 400 && !(k.queue(0) == process && k.about(process, 0) == place); i++) {
-            k.run(1);
-        }
-        Check.same("process " + process + " comes to " + place, k.about(process, 0), place);
-    }
-
     private static void firstReaderWakes() {
         PipeKernel k = threeReaders(Code.push(71), Code.push(3), Code.WRITE, Code.YIELD, Code.push(72), Code.push(3),
             Code.WRITE, Code.NOP);
-        runTo(k, 0, 22);
+        Code.runTo(k, 0, 22);
         Check.same("all wait", k.pipe(0, 3), 3);
         Check.queue("all wait", k, 0);
         k.run(1);
@@ -277,12 +270,12 @@ public final class PipeTest {
         Check.same("the word is in the pipe", k.pipe(0, 0), 1);
         k.run(2);
         Check.stack("it is read", k, 1, 71, 1);
-        runTo(k, 1, 45);
+        Code.runTo(k, 1, 45);
     }
 
     private static void firstWriterWakes() {
         PipeKernel k = threeWriters(Code.push(2), Code.READ, Code.YIELD, Code.push(2), Code.READ, Code.NOP);
-        runTo(k, 0, 21);
+        Code.runTo(k, 0, 21);
         Check.same("two wait to write", k.pipe(0, 4), 2);
         Check.same("process 1 has written", k.stack(1, 0), 1);
         Check.same("before", k.state(2), PipeKernel.WRITES);
@@ -293,7 +286,7 @@ public final class PipeTest {
         Check.same("process 3 is not", k.state(3), PipeKernel.WRITES);
         Check.same("the pipe is empty", k.pipe(0, 0), 0);
         Check.same("nothing was popped", k.about(2, 1), words);
-        runTo(k, 2, 46);
+        Code.runTo(k, 2, 46);
         Check.same("its word is there", k.pipe(0, 0), 1);
         Check.same("words", k.about(2, 1), words - 1);
         Check.same("1 is pushed", k.stack(2, 0), 1);
@@ -303,41 +296,41 @@ public final class PipeTest {
         // Process 0 writes a word, which wakes process 1, and reads it itself: process 1 waits anew, behind 2 and 3.
         PipeKernel k = threeReaders(Code.push(71), Code.push(3), Code.WRITE, Code.push(2), Code.READ, Code.YIELD,
             Code.push(72), Code.push(3), Code.WRITE, Code.NOP, Code.jump(29));
-        runTo(k, 0, 25);
+        Code.runTo(k, 0, 25);
         Check.queue("process 1 is READY", k, 0, 1);
         Check.same("the word is taken", k.pipe(0, 0), 0);
         k.run(2);
         Check.same("process 1 waits anew", k.state(1), PipeKernel.READS);
         Check.same("at the same place", k.about(1, 0), 44);
-        runTo(k, 0, 29);
+        Code.runTo(k, 0, 29);
         Check.queue("process 2 is the longest one now", k, 0, 2);
     }
 
     private static void lastWriterWakesAll() {
         PipeKernel k = threeReaders(Code.NOP, Code.push(3), Code.CLOSE, Code.YIELD, Code.jump(24));
-        runTo(k, 0, 22);
+        Code.runTo(k, 0, 22);
         Check.queue("all wait", k, 0);
         k.run(1);
         Check.queue("all, in turn", k, 0, 1, 2, 3);
         k.run(2);
         Check.stack("no word, no writer", k, 1, 0, 0);
         PipeKernel byEnd = threeReaders(Code.NOP, Code.push(7), Code.EXIT);
-        runTo(byEnd, 0, 22);
+        Code.runTo(byEnd, 0, 22);
         byEnd.run(1);
         Check.queue("by the end of the last one that writes", byEnd, 1, 2, 3);
     }
 
     private static void lastReaderWakesAll() {
         PipeKernel k = threeWriters(Code.NOP, Code.push(2), Code.CLOSE, Code.YIELD, Code.jump(23));
-        runTo(k, 0, 22);
+        Code.runTo(k, 0, 22);
         Check.same("two wait to write", k.pipe(0, 4), 2);
         Check.same("one reading end", k.pipe(0, 1), 1);
         k.run(1);
         Check.same("process 2 is READY", k.state(2), PipeKernel.READY);
         Check.same("process 3 is READY", k.state(3), PipeKernel.READY);
-        runTo(k, 2, 46);
+        Code.runTo(k, 2, 46);
         Check.same("-2 is pushed", k.stack(2, 0), -2);
-        runTo(k, 3, 46);
+        Code.runTo(k, 3, 46);
         Check.same("-2 is pushed", k.stack(3, 0), -2);
     }
 
@@ -385,17 +378,17 @@ public final class PipeTest {
     /** The reader that is killed waits no more: the word wakes the next one. */
     private static void killedWhileItWaits() {
         PipeKernel k = threeReaders(Code.push(1), Code.KILL, Code.push(71), Code.push(3), Code.WRITE, Code.YIELD);
-        runTo(k, 0, 21);
+        Code.runTo(k, 0, 21);
         k.run(1);
         Check.same("two wait", k.pipe(0, 3), 2);
         Check.same("its reading end is closed", k.pipe(0, 1), 3);
-        runTo(k, 0, 24);
+        Code.runTo(k, 0, 24);
         k.run(1);
         Check.queue("the next one", k, 0, 2);
         // It waits to write, and has the last reading end itself: closing that must not wake it.
         PipeKernel own = Code.booted(100, 1, Code.FORK, Code.jumpIfZero(10), Code.YIELD, Code.push(1), Code.KILL, Code.jump(5),
             0, 0, 0, 0, Code.PIPE, Code.push(3), Code.WRITE, Code.DROP, Code.push(3), Code.TWICE, Code.WRITE);
-        runTo(own, 0, 4);
+        Code.runTo(own, 0, 4);
         Check.same("it waits to write", own.state(1), PipeKernel.WRITES);
         own.run(1);
         Check.same("it is ENDED", own.state(1), PipeKernel.ENDED);
