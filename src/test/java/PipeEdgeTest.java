@@ -29,6 +29,7 @@ public final class PipeEdgeTest {
         closeEach();
         dupOfNone();
         dupIntoTheLast();
+        forkCopiesEveryEnd();
         oneWordWakesOne();
         oneTakenWakesOne();
         notTheLastEndWakesNone();
@@ -399,6 +400,26 @@ public final class PipeEdgeTest {
             Check.same("is like " + like, k.descriptor(0, d), k.descriptor(0, like));
             Check.same("then none is free", k.stack(0, 0), -1);
             Check.same("all are open", k.about(0, 5), 255);
+        }
+    }
+
+    /** FORK copies "descriptors": all eight are ends of pipes, and count twice until the child ends. */
+    private static void forkCopiesEveryEnd() {
+        PipeKernel k = Code.booted(100, 1, Code.push(0), Code.CLOSE, Code.push(1), Code.CLOSE, Code.PIPE, Code.PIPE, Code.PIPE,
+            Code.PIPE, Code.FORK, Code.jumpIfZero(13), Code.YIELD, Code.WAIT, Code.jump(12), Code.EXIT);
+        Code.runTo(k, 0, 9);
+        for (int d = 0; d < 8; d++) {
+            Check.same("descriptor " + d, k.descriptor(1, d), (d % 2 == 0 ? 10 : 20) + d / 2);
+        }
+        for (int p = 0; p < 4; p++) {
+            Check.same("reading ends of pipe " + p, k.pipe(p, 1), 2);
+            Check.same("writing ends of pipe " + p, k.pipe(p, 2), 2);
+        }
+        Code.runTo(k, 0, 11);
+        Check.same("the child ENDED", k.state(1), PipeKernel.ENDED);
+        for (int p = 0; p < 4; p++) {
+            Check.same("reading ends of pipe " + p, k.pipe(p, 1), 1);
+            Check.same("writing ends of pipe " + p, k.pipe(p, 2), 1);
         }
     }
 

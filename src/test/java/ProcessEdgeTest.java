@@ -11,6 +11,7 @@ public final class ProcessEdgeTest {
         notReadyAnyMore();
         wakesBeforeTheInstruction();
         childBeforeItsParent();
+        wokenBeforeTheTurnIsOver();
         timeGrowsWithoutAnInstruction();
         sleepersByTheirNumbers();
         sleepForNothing();
@@ -38,6 +39,7 @@ public final class ProcessEdgeTest {
         endedChildrenAreGone();
         endedChildrenGoToZero();
         parentThenZero();
+        readersThenParentThenZero();
         zeroOnce();
         Check.done();
     }
@@ -146,6 +148,25 @@ public final class ProcessEdgeTest {
         Check.queue("process 1 has process 2", k, 0, 2, 1);
         k.run(1);
         Check.queue("process 0 has process 3", k, 2, 1, 3, 0);
+    }
+
+    /** So too one that is woken by the last instruction of a turn: by a word, by room for one, and by a CLOSE. */
+    private static void wokenBeforeTheTurnIsOver() {
+        int[] reads = Code.code(Code.push(3), Code.CLOSE, Code.push(2), Code.READ, Code.jump(24));
+        int[] writes = Code.code(Code.push(3), Code.WRITE, Code.push(3), Code.WRITE, Code.jump(24));
+        int[][] children = {reads, reads, writes};
+        int[][] wakes = {Code.code(Code.push(3), Code.WRITE), Code.code(Code.push(3), Code.CLOSE),
+            Code.code(Code.push(2), Code.READ)};
+        for (int i = 0; i < wakes.length; i++) {
+            PipeKernel k = Code.booted(1, 1, Code.pieces(
+                0, Code.code(Code.PIPE, Code.FORK, Code.jumpIfZero(20)),
+                10, wakes[i], 12, Code.code(Code.jump(12)),
+                20, children[i]));
+            Code.runTo(k, 0, 11);
+            Check.queue("process 1 waits", k, 0);
+            k.run(1);
+            Check.queue("process 1 woke, then process 0 went behind it", k, 1, 0);
+        }
     }
 
     /** "TIME grows by 1" in each STEP, also when the queue is empty. */
@@ -594,6 +615,23 @@ public final class ProcessEdgeTest {
         Check.same("process 3 is process 0's", alive.about(3, 2), 0);
         Check.same("process 0 waits still", alive.state(0), PipeKernel.WAITS);
         Check.queue("process 1 alone is READY", alive, 3, 1);
+    }
+
+    /** First "its descriptors are closed", which wakes process 3; then its parent, process 1; then process 0. */
+    private static void readersThenParentThenZero() {
+        PipeKernel k = Code.booted(100, 1, Code.pieces(
+            0, Code.code(Code.PIPE, Code.FORK, Code.jumpIfZero(20), Code.push(3), Code.CLOSE, Code.WAIT),
+            20, Code.code(Code.FORK, Code.jumpIfZero(40), Code.FORK, Code.jumpIfZero(60), Code.push(3), Code.CLOSE, Code.WAIT),
+            40, Code.code(Code.FORK, Code.jumpIfZero(80), Code.YIELD, Code.push(1), Code.EXIT),
+            60, Code.code(Code.push(3), Code.CLOSE, Code.push(2), Code.READ),
+            80, Code.code(Code.push(9), Code.EXIT)));
+        Code.runTo(k, 2, 44);
+        Check.same("process 0 waits", k.state(0), PipeKernel.WAITS);
+        Check.same("process 1 waits", k.state(1), PipeKernel.WAITS);
+        Check.same("process 3 reads", k.state(3), PipeKernel.READS);
+        Check.same("process 4 ENDED", k.state(4), PipeKernel.ENDED);
+        k.run(1);
+        Check.queue("3, then 1, then 0", k, 3, 1, 0);
     }
 
     /** The parent is process 0, and it has got another one that ENDED: it becomes READY once. */

@@ -482,15 +482,20 @@ public final class PromiseEdgeTest {
         Check.same("descriptor 7", all.descriptor(0, 7), 22);
     }
 
-    /** 14: pipes 0 and 7 can be asked for everything from 0 to 4. */
-    private static void pipeFirstAndLast() {
+    /** Processes 0 .. 7 have a pipe each, and wait; process 8 has pipe 7 as its parent has, and does this. */
+    private static PipeKernel eightPipes(int... atTwenty) {
         PipeKernel k = Code.booted(100, 1, Code.pieces(
             0, Code.code(Code.PIPE, Code.FORK, Code.jumpIfZero(10), Code.WAIT),
             10, Code.code(Code.NUMBER, Code.push(8), Code.SAME, Code.NOT, Code.jumpIfZero(20), Code.CLOSE, Code.DROP, Code.CLOSE,
                 Code.DROP, Code.jump(0)),
-            // Process 8 has pipe 7 as its parent has: one word in it, and it waits to write a second one.
-            20, Code.code(Code.push(3), Code.WRITE, Code.push(3), Code.WRITE)));
+            20, atTwenty));
         Code.steps(k, 200);
+        return k;
+    }
+
+    /** 14: pipes 0 and 7 can be asked for everything from 0 to 4. */
+    private static void pipeFirstAndLast() {
+        PipeKernel k = eightPipes(Code.push(3), Code.WRITE, Code.push(3), Code.WRITE);
         Check.same("words of pipe 0", k.pipe(0, 0), 0);
         Check.same("reading ends of pipe 0", k.pipe(0, 1), 1);
         Check.same("writing ends of pipe 0", k.pipe(0, 2), 1);
@@ -501,6 +506,11 @@ public final class PromiseEdgeTest {
         Check.same("writing ends of pipe 7", k.pipe(7, 2), 2);
         Check.same("readers of pipe 7", k.pipe(7, 3), 0);
         Check.same("writers of pipe 7", k.pipe(7, 4), 1);
+        k = eightPipes(Code.push(2), Code.READ);
+        for (int p = 0; p < 8; p++) {
+            Check.same("readers of pipe " + p, k.pipe(p, 3), p == 7 ? 1 : 0);
+            Check.same("writers of pipe " + p, k.pipe(p, 4), 0);
+        }
     }
 
     /** 14: "(all 0 of one that is not there)." */
