@@ -21,6 +21,8 @@ public final class ProcessEdgeTest {
         forkTakesTheLeast();
         forkOfTheLastNumber();
         endedHasItsNumber();
+        forkAtTheLastPlace();
+        waitsAtTheLastPlace();
         waitWithoutAChild();
         waitForTheLeast();
         waitForProcessZero();
@@ -300,6 +302,35 @@ public final class ProcessEdgeTest {
         Check.same("15 is there", k.state(15), PipeKernel.ENDED);
         Code.runTo(k, 0, 11);
         Check.stack("it is gone, and free", k, 0, 0, -1, -9, 15, 15);
+    }
+
+    /** "PLACE, which is behind this instruction for both": behind place 127 there is no instruction for either. */
+    private static void forkAtTheLastPlace() {
+        PipeKernel k = Code.loaded(1, 1, Code.jump(127));
+        k.load(127, Code.FORK);
+        k.boot();
+        k.run(2);
+        Check.same("PLACE of the parent", k.about(0, 0), 128);
+        Check.same("PLACE of the child", k.about(1, 0), 128);
+        Check.queue("both are READY", k, 1, 0);
+        k.run(1);
+        Check.same("FAULT 4 of the child", k.about(1, 3), -1004);
+        k.run(1);
+        Check.same("FAULT 4 of the parent: both are gone", k.state(0) + k.state(1), 0);
+    }
+
+    /** "They do the same instruction again": PLACE stays at 127 while it waits, and is 128 behind it. */
+    private static void waitsAtTheLastPlace() {
+        PipeKernel k = Code.loaded(1, 1, Code.push(0), Code.jump(127));
+        k.load(127, Code.READ);
+        k.boot();
+        k.run(40);
+        Check.same("it waits", k.state(0), PipeKernel.READS);
+        Check.same("PLACE stays", k.about(0, 0), 127);
+        k.feed(3);
+        k.run(1);
+        Check.stack("it has read", k, 0, 3, 1);
+        Check.same("PLACE grows", k.about(0, 0), 128);
     }
 
     /** "0 and -1 if it has no child." */
